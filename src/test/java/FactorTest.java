@@ -51,19 +51,21 @@ public final class FactorTest {
         laterSeed();
     }
 
-    /** The seed is the first whose number for the line is not 0, when others bring a 0. */
+    /** The 188th number that seed 1 brings, line 27's only one, is 0. */
     private static void laterSeed() {
-        MixingRelays net = Nets.withRelays(11);
-        for (int line = 0; line < 30; line++) {
-            net.line(line % 11, line % 11 + 1);
+        MixingRelays net = Nets.withRelays(3);
+        for (int line = 0; line < 27; line++) {
+            net.line(line < 11 ? 0 : 1, line < 11 ? 1 : 2);
         }
-        net.end(11, 1);
-        int want = MixingRelays.NONE;
-        for (int seed = 1; seed <= 40 && want == MixingRelays.NONE; seed++) {
-            net.draw(seed);
-            want = net.left() == 0 ? seed : MixingRelays.NONE;
-        }
-        Check.due("find in a row of relays", net.find(), want);
+        net.line(0, 3);
+        net.end(3, 1);
+        Check.due("draw(1)", net.draw(1), 188);
+        Check.due("draw(1) is not enough", net.left(), 1);
+        Check.due("find a later seed", net.find(), 2);
+        Check.due("found", net.left(), 0);
+        net.factor(27, 0, 1);
+        net.keep(27, 1);
+        Check.due("the first seed is tried again", net.find(), 1);
     }
 
     private static void doesNotFind() {
