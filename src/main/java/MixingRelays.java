@@ -162,7 +162,7 @@ public final class MixingRelays {
     }
 
     public int cut(int relay, int i) {
-        int refusal = refusalOf(relay);
+        int refusal = i < 0 ? NONE : refusalOf(relay);
         if (refusal != FINE) {
             return refusal;
         }
@@ -207,12 +207,12 @@ public final class MixingRelays {
     }
 
     public int fresh(int relay, int i) {
-        int refusal = refusalOf(relay);
+        int refusal = i < 0 ? NONE : refusalOf(relay);
         if (refusal != FINE) {
             return refusal;
         }
         int size = span.rankNow(relay);
-        return i < 0 || i >= size ? NONE : span.newLines[i];
+        return i >= size ? NONE : span.newLines[i];
     }
 
     public int solves(int relay, int p) {
@@ -225,12 +225,12 @@ public final class MixingRelays {
     }
 
     public int key(int relay, int p, int i) {
-        int refusal = refusalOf(relay, p);
+        int refusal = i < 0 ? NONE : refusalOf(relay, p);
         if (refusal != FINE) {
             return refusal;
         }
         int size = span.rankNow(relay);
-        if (!span.worksOut(p) || i < 0 || i >= size) {
+        if (!span.worksOut(p) || i >= size) {
             return NONE;
         }
         return span.keyNumber(p, i);
@@ -326,7 +326,10 @@ public final class MixingRelays {
 
     // ---- refusals and small numbers
 
-    /** The source is refused ahead of an i, for it has no list in which an i could stand. */
+    /**
+     * The source is refused ahead of an i from 0 on, for it has no list in which such an i could be
+     * missing; an i below 0 is missing in every list, so callers refuse it first.
+     */
     private int refusalOf(int relay) {
         if (!net.isRelay(relay)) {
             return NONE;

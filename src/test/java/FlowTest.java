@@ -82,6 +82,11 @@ public final class FlowTest {
         Check.due("flow(-1)", net.flow(-1), MixingRelays.NONE);
         Check.due("flow(1)", net.flow(1), 0);
         Check.due("cut(0, 0)", net.cut(0, 0), MixingRelays.BAD);
+        Check.due("cut(0, 1000)", net.cut(0, 1000), MixingRelays.BAD);
+        Check.due("cut(0, -1)", net.cut(0, -1), MixingRelays.NONE);
+        Check.due("cut(0, least)", net.cut(0, Integer.MIN_VALUE), MixingRelays.NONE);
+        Check.due("cut(2, -1)", net.cut(2, -1), MixingRelays.NONE);
+        Check.due("cut(1, -1)", net.cut(1, -1), MixingRelays.NONE);
         Check.due("cut(2, 0)", net.cut(2, 0), MixingRelays.NONE);
         Check.due("cut(1, 0)", net.cut(1, 0), MixingRelays.NONE);
     }

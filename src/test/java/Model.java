@@ -118,10 +118,10 @@ final class Model {
     }
 
     int cut(int relay, int i) {
-        if (noRelay(relay)) return NONE;
+        if (noRelay(relay) || i < 0) return NONE;
         if (relay == 0) return BAD;
         List<Integer> cut = leastCut(relay);
-        return i < 0 || i >= cut.size() ? NONE : cut.get(i);
+        return i >= cut.size() ? NONE : cut.get(i);
     }
 
     int rate() {
@@ -155,10 +155,10 @@ final class Model {
     }
 
     int fresh(int relay, int i) {
-        if (noRelay(relay)) return NONE;
+        if (noRelay(relay) || i < 0) return NONE;
         if (relay == 0) return BAD;
         List<Integer> fresh = newLines(relay);
-        return i < 0 || i >= fresh.size() ? NONE : fresh.get(i);
+        return i >= fresh.size() ? NONE : fresh.get(i);
     }
 
     int solves(int relay, int p) {
@@ -172,9 +172,10 @@ final class Model {
 
     int key(int relay, int p, int i) {
         int solves = solves(relay, p);
+        if (i < 0) return NONE;
         if (solves < 0) return solves;
         int[] key = keyOf(relay, p);
-        return solves == 0 || i < 0 || i >= key.length ? NONE : key[i];
+        return solves == 0 || i >= key.length ? NONE : key[i];
     }
 
     long gets(int relay, int p) {

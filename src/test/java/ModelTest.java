@@ -128,7 +128,7 @@ public final class ModelTest {
         int relay = aRelay();
         int p = aPiece();
         int q = aPiece();
-        int i = edge(4);
+        int i = random.nextInt(10) == 0 ? -1 : edge(4);
         String at = "(" + relay + ", " + p + ", " + q + ", " + i + ")";
         switch (which) {
             case 0: due("flow" + at, net.flow(relay), model.flow(relay)); break;
