@@ -1,7 +1,14 @@
 /** Counts the answers that are not the ones due; each test ends with finish(). */
 final class Check {
+    private static final long MOST_SECONDS = 120;
     private static int wrong = 0;
     private static int asked = 0;
+
+    static {
+        Thread watch = new Thread(Check::waitAndStop);
+        watch.setDaemon(true);
+        watch.start();
+    }
 
     private Check() {
     }
@@ -16,6 +23,17 @@ final class Check {
 
     static void holds(String what, boolean is) {
         due(what, is ? 1 : 0, 1);
+    }
+
+    /** A call that does not end must fail the test, not hold it up. */
+    private static void waitAndStop() {
+        try {
+            Thread.sleep(MOST_SECONDS * 1000);
+        } catch (InterruptedException stopped) {
+            return;
+        }
+        System.out.println("not ended after " + MOST_SECONDS + " seconds");
+        Runtime.getRuntime().halt(1);
     }
 
     static int wrongSoFar() {

@@ -20,6 +20,7 @@ public final class FactorTest {
         findsNothingWithoutEnds();
         leavesTheFirstInThatDoes();
         leavesFromTheLastDown();
+        leavesDownToLineNought();
         leavesRanksAsTheyWere();
         leavesEachEndItsRank();
         leavesFactorsThatMustMix();
@@ -296,6 +297,16 @@ public final class FactorTest {
         factors("the last first", net, 3, 1, 0);
         factors("then the other", net, 2, 0, 1);
         Check.due("rank", net.rank(2), 2);
+    }
+
+    private static void leavesDownToLineNought() {
+        MixingRelays net = withLines(2, row(1, 2), row(0, 1), row(0, 1));
+        net.factor(0, 0, 2);
+        net.factor(0, 1, 3);
+        net.factor(2, 0, 1);
+        net.end(2, 1);
+        Check.due("line 0", net.leave(), 1);
+        factors("left", net, 0, 0, 1);
     }
 
     /** "as it was before": neither less nor more */

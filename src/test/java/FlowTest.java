@@ -9,6 +9,7 @@ public final class FlowTest {
         noLineInCommon();
         relaysInCommon();
         givesUpALine();
+        givenUpIsFree();
         notAlongBrokenLines();
         factorsDoNotMatter();
         fewestRelays();
@@ -89,6 +90,14 @@ public final class FlowTest {
     private static void givesUpALine() {
         MixingRelays net = withLines(4, from(0, 1), from(1, 2), from(2, 4), from(0, 2), from(1, 3), from(3, 4));
         cut(net, 4, 0, 3);
+    }
+
+    /** The set is {0, 2}: to see 2 in it, a line from 1 to 2 that a way had and gave up must be free again. */
+    private static void givenUpIsFree() {
+        MixingRelays net = withLines(3, from(1, 3), from(0, 1), from(1, 2), from(0, 2), from(2, 3), from(0, 3), from(0, 2));
+        cut(net, 3, 1, 4, 5);
+        MixingRelays wide = withLines(3, from(0, 1), from(1, 2), from(0, 2), from(0, 2), from(2, 3), from(0, 3), from(1, 3), from(0, 3));
+        cut(wide, 3, 0, 4, 5, 7);
     }
 
     /** "along LINES that are not BROKEN" */
