@@ -393,15 +393,18 @@ public final class MixingRelays {
         return (int) scaled(a, b);
     }
 
-    /** a to the 254th, since a to the 255th is 1 for every a but 0. */
+    /**
+     * a to the 254th, since a to the 255th is 1 for every a but 0. Not by product: leave and breaks would
+     * then go nine calls deep.
+     */
     private static int inverseOf(int a) {
-        int power = a;
-        int result = 1;
+        long power = a;
+        long result = 1L;
         for (int bit = 1; bit < 8; bit++) {
-            power = product(power, power);
-            result = product(result, power);
+            power = scaled(power, (int) power);
+            result = scaled(result, (int) power);
         }
-        return result;
+        return (int) result;
     }
 
     /** The relays and lines, and what goes along them. */
