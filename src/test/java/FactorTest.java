@@ -28,6 +28,7 @@ public final class FactorTest {
         leavesNoLinesFromTheSource();
         leavesNoPassingLines();
         leavesBrokenLines();
+        leavesByNoBrokenIn();
         leavesLinesThatNoEndNeeds();
         leavesMost();
         leavesWithoutEnds();
@@ -388,6 +389,18 @@ public final class FactorTest {
         Check.due("the rank is 0 anyhow", net.leave(), 1);
         factors("left", net, 2, 1, 0);
         Check.due("broken still", net.about(2, 4), 1);
+    }
+
+    /** A broken IN says 0s, so the next one is tried. */
+    private static void leavesByNoBrokenIn() {
+        MixingRelays net = mixing(1, new int[][] {{1}, {1}}, row(2, 3));
+        net.broken(0, 1);
+        Check.due("IN 1 does", net.leave(), 1);
+        factors("left", net, 2, 0, 1);
+        net.broken(1, 1);
+        net.factor(2, 0, 4);
+        Check.due("all INS are broken, the rank is 0", net.leave(), 1);
+        factors("left", net, 2, 1, 0);
     }
 
     private static void leavesLinesThatNoEndNeeds() {
